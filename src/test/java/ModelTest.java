@@ -57,7 +57,7 @@ public final class ModelTest {
             return below(12) == 0 ? strange() : below(7) - 2;
         }
 
-        // Neither a variable nor a kind nor an order.
+        // Neither a variable nor an order; 4 is a kind, though.
         private int strange() {
             int[] all = {-1, 4, 5, 65536, Integer.MIN_VALUE, Integer.MAX_VALUE};
             return all[below(all.length)];
